@@ -7,6 +7,9 @@ import java.nio.charset.StandardCharsets;
 import java.nio.file.Files;
 import java.nio.file.Path;
 import java.util.Arrays;
+import java.util.List;
+import java.util.Map;
+import java.util.TreeMap;
 import java.util.TreeSet;
 import java.util.regex.Matcher;
 import java.util.regex.Pattern;
@@ -19,6 +22,9 @@ public final class LanguageTest {
         "plans(int):int", "planAt(int):int", "bestAnswer(int):int", "bestPlan(int):int", "put(long):int", "wipe():int",
         "fault():int", "carryOut():int", "undo():int", "save(int):int", "restore(int):int"};
     private static final String[] CONSTANTS = {"NO_SUCH=-1", "BAD_VALUE=-2", "BAD_TEXT=-3", "TOO_MANY=-4", "NOT_POSSIBLE=-5", "NONE=-6"};
+
+    private static final List<String> LIBRARY = List.of("System.arraycopy", "Math.abs", "Math.max", "Math.min", "Integer.bitCount",
+        "Arrays.fill");
 
     private static int wrong = 0;
 
@@ -79,6 +85,7 @@ public final class LanguageTest {
             }
             must(fields <= 20, inside + " has some twenty fields at most");
         }
+        must(games.getDeclaredClasses().length < 12, "some twelve classes at most");
         hidden.retainAll(names);
         must(hidden.isEmpty(), "private methods with public names: " + hidden);
     }
@@ -98,7 +105,46 @@ public final class LanguageTest {
         while (imports.find()) {
             must(imports.group(1).equals("java.util.Arrays"), "the import of " + imports.group(1));
         }
+        Matcher libraries = Pattern.compile("\\b(System|Math|Arrays|Integer|Long|String|Character|Thread|Runtime)\\.\\w+").matcher(bare);
+        while (libraries.find()) {
+            must(LIBRARY.contains(libraries.group()), "the use of " + libraries.group());
+        }
         must(longestMethod(text) <= 60, "methods of some sixty lines at most");
+        methodsKeepRules(bodiesIn(bare));
+    }
+
+    private static void methodsKeepRules(Map<String, String> bodies) {
+        must(bodies.keySet().containsAll(Arrays.asList("weight", "restore", "possibleActions", "look", "faultPlace")), "methods are found");
+        for (String method : bodies.keySet()) {
+            boolean isConstructor = method.equals("MessageGames");
+            must(isConstructor || !bodies.get(method).contains("new "), method + " makes no object");
+            int depth = depthOf(method, bodies, 0);
+            must(depth <= 8, method + " leads " + depth + " calls deep");
+        }
+    }
+
+    /** The text of each method but the constructors of the classes inside; methods of one name are taken for one. */
+    private static Map<String, String> bodiesIn(String bare) {
+        Map<String, String> bodies = new TreeMap<>();
+        String head = "\n( {4}| {8})(?:\\w+ )*[\\w\\[\\]]+ (\\w+)\\(([^()]*)\\) \\{";
+        Matcher methods = Pattern.compile(head + "(?s)(.*?)\n\\1\\}").matcher(bare);
+        while (methods.find()) {
+            must(methods.group(3).split(",").length <= 7, methods.group(2) + " takes seven parameters at most");
+            bodies.merge(methods.group(2), methods.group(4), String::concat);
+        }
+        return bodies;
+    }
+
+    /** How deep calls go from a method on; one that comes back to itself goes deeper than any may. */
+    private static int depthOf(String method, Map<String, String> bodies, int above) {
+        int deepest = 0;
+        Matcher names = Pattern.compile("\\b(\\w+)\\(").matcher(bodies.get(method));
+        while (above < 20 && names.find()) {
+            if (bodies.containsKey(names.group(1))) {
+                deepest = Math.max(deepest, depthOf(names.group(1), bodies, above + 1));
+            }
+        }
+        return deepest + 1;
     }
 
     private static int longestMethod(String text) {

@@ -153,7 +153,7 @@ public final class RandomRunsTest {
             return random.nextLong();
         }
         if (kind == 1) {
-            return packed("w0=1") << 8 * random.nextInt(5);
+            return Due.packed("w0=1") << 8 * random.nextInt(5);
         }
         if (kind == 2) {
             return random.nextInt(256);
@@ -163,7 +163,7 @@ public final class RandomRunsTest {
             int place = random.nextInt(order.length());
             order = order.substring(0, place) + "wsauvo0123456789=>-;x".charAt(random.nextInt(21)) + order.substring(place + 1);
         }
-        return packed(order.length() > 8 ? order.substring(0, 8) : order);
+        return Due.packed(order.length() > 8 ? order.substring(0, 8) : order);
     }
 
     private static String order(Random random) {
@@ -175,14 +175,6 @@ public final class RandomRunsTest {
             case 4: return "v" + random.nextInt(3) + random.nextInt(3) + random.nextInt(3) + "=-" + random.nextInt(10);
             default: return "o" + random.nextInt(3) + random.nextInt(3) + "=" + (random.nextBoolean() ? 0 : random.nextInt(10));
         }
-    }
-
-    private static long packed(String text) {
-        long number = 0;
-        for (char character : text.toCharArray()) {
-            number = number << 8 | character;
-        }
-        return number;
     }
 
     private static long ask(MessageGames games, long[] call) {
